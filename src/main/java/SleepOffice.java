@@ -172,7 +172,7 @@ public final class SleepOffice {
 
     public boolean act(int a, int sort, int day, int amount) {
         Account account = accountAt(a);
-        if (!takesEntry(account, day) || !isWithin(sort, SORTS)) {
+        if (account == null || !takesEntry(account, day) || !isWithin(sort, SORTS)) {
             return false;
         }
         if (amount < -GREATEST_AMOUNT || amount > GREATEST_AMOUNT) {
@@ -185,7 +185,7 @@ public final class SleepOffice {
 
     public boolean grow(int a, int day, int up, int by) {
         Account account = accountAt(a);
-        if (!takesEntry(account, day) || up < 1 || up > 9 || by < 1 || by > 9) {
+        if (account == null || !takesEntry(account, day) || up < 1 || up > 9 || by < 1 || by > 9) {
             return false;
         }
         if (account.growths >= MOST_GROWTHS || account.grewOn(day)) {
@@ -210,7 +210,7 @@ public final class SleepOffice {
     }
 
     private boolean takesEntry(Account account, int day) {
-        return account != null && day >= account.began && day <= now && entriesTold < MOST_ENTRIES;
+        return day >= account.began && day <= now && entriesTold < MOST_ENTRIES;
     }
 
     // ---- the tape and the laws
@@ -1400,7 +1400,7 @@ public final class SleepOffice {
         }
 
         private void advance() {
-            if (fault != 0 || !isWithin(next, tokens.size())) {
+            if (fault != 0 || next < 0 || next >= tokens.size()) {
                 return;
             }
             Token token = tokens.get(next);
@@ -1576,8 +1576,11 @@ public final class SleepOffice {
 
         /** The first of the set with each of the others, and those others among themselves. */
         private int worthOf(int set) {
-            int first = Integer.numberOfTrailingZeros(set);
-            int others = set & set - 1;
+            int first = 0;
+            while (first < seated && (set >> first & 1) == 0) {
+                first++;
+            }
+            int others = set & set - 1 & SETS - 1;
             int total = worth[others];
             for (int i = first + 1; i < seated && total != BARRED; i++) {
                 if ((others >> i & 1) == 1) {
