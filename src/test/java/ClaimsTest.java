@@ -85,6 +85,8 @@ public final class ClaimsTest {
         asks("proof 20-5-4;", 11);
         asks("proof 20-(5-4);", 19);
         asks("proof 7/2*2;", 6);
+        asks("proof 7/1;", 7);
+        asks("proof 12-(1-8)/2;", 15);
         asks("proof 100/7/3;", 4);
         asks("proof 10+(1-8)/2;", 7);
         asks("proof 1;proof 9 when 1>2;", 1);

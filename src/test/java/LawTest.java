@@ -203,6 +203,15 @@ public final class LawTest {
         faultIn("feE 1;", 1, 0);
         faultIn("feee 1;", 1, 0);
         faultIn("fe 1;", 1, 0);
+        faultIn("feez 1;", 1, 0);
+        faultIn("feea 1;", 1, 0);
+        faultIn("feeA 1;", 1, 0);
+        faultIn("feeZ 1;", 1, 0);
+        faultIn("fee` 1;", 1, 3);
+        faultIn("fee{ 1;", 1, 3);
+        faultIn("fee@ 1;", 1, 3);
+        faultIn("fee[ 1;", 1, 3);
+        faultIn("fee 1:", 1, 5);
         faultIn("fee\t1;", 1, 3);
         faultIn("fee 1,", 1, 5);
         faultIn("fee 1" + (char) 233, 1, 5);

@@ -10,6 +10,7 @@ public final class YearsTest {
         looks();
         leastCostThenFirst();
         pursesAndCounts();
+        dearOnesFirst();
         c.finish();
     }
 
@@ -155,6 +156,26 @@ public final class YearsTest {
         three(x, 20, 60, 1 << 3 | 1 << 5, 999999, 59);
         three(x, 1, 60, 1 << 1, 999999, 60);
         three(x, 20, 999, 1 << 1 | 1 << 3 | 1 << 5, 1999998, 119);
+    }
+
+    /** One run whose gaps get cheaper, each worth 1. */
+    private static void dearOnesFirst() {
+        SleepOffice x = new SleepOffice();
+        x.firm(0);
+        x.figure(0, 6, 1);
+        x.figure(0, 19, 0);
+        for (int y = 7; y < 19; y++) {
+            x.figure(0, y, 0);
+        }
+        for (int y = 0; y < 6; y++) {
+            x.costs(y, 6 - y);
+        }
+        three(x, 1, 999, 0b100000, 1, 1);
+        three(x, 3, 999, 0b111000, 3, 6);
+        three(x, 6, 9, 0b111000, 3, 6);
+        three(x, 6, 10, 0b111100, 4, 10);
+        x.costs(0, 3);
+        three(x, 3, 999, 0b110001, 3, 6);
     }
 
     private static void three(SleepOffice x, int k, int purse, int set, int gain, int cost) {
