@@ -1225,20 +1225,25 @@ public final class SleepOffice {
         void readLines() {
             advance();
             for (int line = 0; line <= MOST_LINES && sort != Token.END && fault == 0; line++) {
-                if (sort < Token.SLEEP || sort > Token.PROOF) {
+                int word = sort;
+                if (word < Token.SLEEP || word > Token.PROOF) {
                     refuse(CANNOT_STAND);
                 } else if (law.lines >= MOST_LINES) {
                     refuse(TOO_MANY);
                 } else {
-                    readLine();
+                    advance();
+                    if (word == Token.PROOF) {
+                        readProof();
+                    } else {
+                        readNumbers(word);
+                    }
+                    take(Token.LINE_END);
                     law.lines++;
                 }
             }
         }
 
-        private void readLine() {
-            int word = sort;
-            advance();
+        private void readNumbers(int word) {
             switch (word) {
                 case Token.SLEEP:
                     int kind = takeNumber(0, KINDS - 1);
@@ -1253,15 +1258,11 @@ public final class SleepOffice {
                 case Token.FEE:
                     law.fee = takeNumber(0, 100);
                     break;
-                case Token.INTEREST:
+                default:
                     law.interest = takeNumber(0, 200);
                     law.interestYears = takeNumber(0, 40);
                     break;
-                default:
-                    readProof();
-                    break;
             }
-            take(Token.LINE_END);
         }
 
         private void readProof() {
@@ -1299,6 +1300,7 @@ public final class SleepOffice {
         private void readTest() {
             if (sort == Token.NOT) {
                 if (opens()) {
+                    advance();
                     readTest();
                     open--;
                     law.addCode(-Token.NOT);
@@ -1350,20 +1352,20 @@ public final class SleepOffice {
             } else if (sort != Token.OPEN) {
                 refuse(CANNOT_STAND);
             } else if (opens()) {
+                advance();
                 readTerms();
                 open--;
                 take(Token.CLOSE);
             }
         }
 
-        /** Goes behind a ( or a not, unless too many are open already. */
+        /** Whether a ( or a not may open here; it is refused if too many are open already. */
         private boolean opens() {
             if (open >= MOST_OPEN) {
                 refuse(TOO_MANY);
                 return false;
             }
             open++;
-            advance();
             return true;
         }
 
