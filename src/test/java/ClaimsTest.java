@@ -101,6 +101,10 @@ public final class ClaimsTest {
         asks("proof 9 when 1=1 and 1=1 and 1=2 or 1=2 or 1=1;", 9);
         asks("proof 9 when not 1=2 and 1=2;", 0);
         asks("proof 9 when not 1=1 or 1=1;", 9);
+        asks("proof 9 when not 1=2 and 1=1;", 9);
+        asks("proof 9 when not 1=2 and 1<2;", 9);
+        asks("proof 9 when 1<2 and 2>1;", 9);
+        asks("proof 9 when 2>1 and 1=1 and 1<2;", 9);
         asks("proof 9 when 1+1=2*1 and (3)>(1+1);", 9);
         asks("fee 1;proof 2;sleep 1 1;proof 6 when kind=2;", 6);
     }
