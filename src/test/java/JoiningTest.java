@@ -11,6 +11,7 @@ public final class JoiningTest {
         manyBest();
         wrongSets();
         bars();
+        smallBehindGreat();
         c.finish();
     }
 
@@ -114,6 +115,9 @@ public final class JoiningTest {
         c.due("joined of the same", x.joined(3, 0, 0), NONE);
         c.due("joined, p not of the set", x.joined(3, 2, 0), NONE);
         c.due("joined, q not of the set", x.joined(3, 0, 2), NONE);
+        c.due("joined, p not of the set, with the second", x.joined(3, 2, 1), NONE);
+        c.due("joined, q not of the set, with the second", x.joined(3, 1, 2), NONE);
+        c.due("joined, both not of the set", x.joined(3, 2, 4), NONE);
         c.due("joined, p below 0", x.joined(3, -1, 0), NONE);
         c.due("joined, q 24", x.joined(3, 0, 24), NONE);
         c.due("joined below 0", x.joined(-1, 0, 1), NONE);
@@ -121,6 +125,24 @@ public final class JoiningTest {
         SleepOffice y = new SleepOffice();
         y.person(1, NONE, NONE, NONE, NONE);
         c.due("one that did not come yet", y.join(2, 0), NEVER);
+    }
+
+    /** Nothing of a greater set that was asked before goes into a smaller one: 2 would do with 0 and 1 as well. */
+    private static void smallBehindGreat() {
+        SleepOffice x = Checks.officeOn(100);
+        x.person(1, 10, 0, 7, NONE);
+        x.person(1, 10, 0, 7, NONE);
+        for (int p = 2; p < 8; p++) {
+            x.person(p, 10, 0, NONE, NONE);
+        }
+        c.due("worth of eight", x.join(255, 0), 9);
+        c.due("ways of eight, two of them as one", x.join(255, 1), 877);
+        c.due("worth of two", x.join(3, 0), 9);
+        c.due("ways of two", x.join(3, 1), 1);
+        c.due("sure of eight", x.joined(255, 0, 1), 2);
+        c.due("sure of two", x.joined(3, 0, 1), 2);
+        c.due("likely of eight", x.joined(255, 1, 2), 1);
+        c.due("likely of two", x.joined(6, 1, 2), 1);
     }
 
     /** 0 and 1 are barred, 2 goes with either: two BEST ones. */

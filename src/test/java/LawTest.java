@@ -7,6 +7,7 @@ public final class LawTest {
     public static void main(String[] args) {
         tape();
         bytesInOrder();
+        bytesBehindTheEnd();
         readsAndTold();
         latestCounts();
         tapeIsEmptyThen();
@@ -47,6 +48,28 @@ public final class LawTest {
         c.due("reads", x.reads(2), 2);
         c.due("fee", x.told(2, 6), 37);
         c.due("letter", x.told(2, 5), 812);
+    }
+
+    /** What end() cut off is no part of the text, not even of a word or a number that it parts. */
+    private static void bytesBehindTheEnd() {
+        String[] texts = {"feex", "fee 1001", "fee 100000", "proof 1 when 1<2 order"};
+        int[] length = {3, 7, 9, 19};
+        int[][] faults = {{1, 3}, {1, 7}, {2, 4}, {1, 19}};
+        for (int i = 0; i < texts.length; i++) {
+            SleepOffice x = new SleepOffice();
+            Checks.type(x, texts[i]);
+            c.due("end within a word", x.end(length[i]), true);
+            c.due("reads", x.reads(0), NONE);
+            c.due("fault(0) of '" + texts[i] + "' cut to " + length[i], x.fault(0), faults[i][0]);
+            c.due("fault(1) of '" + texts[i] + "' cut to " + length[i], x.fault(1), faults[i][1]);
+        }
+        SleepOffice x = new SleepOffice();
+        Checks.type(x, "fee 7;fee 8;");
+        c.due("end between lines", x.end(6), true);
+        c.due("one line", x.reads(0), 1);
+        c.due("the first one", x.told(0, 6), 7);
+        c.due("an empty tape has none of them", x.reads(0), 0);
+        c.due("all is plain", x.told(0, 6), 10);
     }
 
     private static void readsAndTold() {

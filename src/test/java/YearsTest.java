@@ -11,6 +11,7 @@ public final class YearsTest {
         leastCostThenFirst();
         pursesAndCounts();
         dearOnesFirst();
+        cheapBehindDear();
         c.finish();
     }
 
@@ -176,6 +177,28 @@ public final class YearsTest {
         three(x, 6, 10, 0b111100, 4, 10);
         x.costs(0, 3);
         three(x, 3, 999, 0b110001, 3, 6);
+    }
+
+    /** Gaps 0 and 1 narrow by 1 each, 3 and 4 by 100; in costs they stand between one another. */
+    private static void cheapBehindDear() {
+        SleepOffice x = new SleepOffice();
+        x.firm(0);
+        x.figure(0, 2, 1);
+        for (int y = 5; y < 20; y++) {
+            x.figure(0, y, 101);
+        }
+        x.costs(0, 5);
+        x.costs(1, 9);
+        x.costs(3, 7);
+        x.costs(4, 3);
+        three(x, 1, 999, 0b10000, 100, 3);
+        three(x, 2, 999, 0b11000, 200, 10);
+        three(x, 3, 999, 0b11001, 201, 15);
+        three(x, 4, 999, 0b11011, 202, 24);
+        three(x, 4, 9, 0b10001, 101, 8);
+        x.costs(4, 99);
+        three(x, 1, 999, 0b01000, 100, 7);
+        three(x, 3, 98, 0b01011, 102, 21);
     }
 
     private static void three(SleepOffice x, int k, int purse, int set, int gain, int cost) {
