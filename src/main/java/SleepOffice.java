@@ -1233,12 +1233,12 @@ public final class SleepOffice {
                 } else {
                     advance();
                     if (word == Token.PROOF) {
-                        readProof();
+                        readTerms();
+                        readCondition();
                     } else {
                         readNumbers(word);
                     }
-                    take(Token.LINE_END);
-                    law.lines++;
+                    closeLine();
                 }
             }
         }
@@ -1265,19 +1265,13 @@ public final class SleepOffice {
             }
         }
 
-        private void readProof() {
-            readTerms();
-            if (sort == Token.WHEN) {
-                advance();
-                readTests();
-                law.addCode(-Token.WHEN);
-            } else {
+        /** Without a when a line is always so. An or is put off until the ands behind it are done. */
+        private void readCondition() {
+            if (sort != Token.WHEN) {
                 law.addCode(-Token.PROOF);
+                return;
             }
-        }
-
-        /** An or is put off until the ands behind it are done. */
-        private void readTests() {
+            advance();
             boolean orWaits = false;
             readTest();
             for (int i = 0; i < tokens.size() && (sort == Token.OR || sort == Token.AND); i++) {
@@ -1295,17 +1289,15 @@ public final class SleepOffice {
             if (orWaits) {
                 law.addCode(-Token.OR);
             }
+            law.addCode(-Token.WHEN);
         }
 
+        /** Its nots are open up to its end, and two of them take each other away. */
         private void readTest() {
-            if (sort == Token.NOT) {
-                if (opens()) {
-                    advance();
-                    readTest();
-                    open--;
-                    law.addCode(-Token.NOT);
-                }
-                return;
+            int nots = 0;
+            while (nots <= MOST_OPEN && sort == Token.NOT && opens()) {
+                advance();
+                nots++;
             }
             readTerms();
             int sign = sort;
@@ -1316,29 +1308,35 @@ public final class SleepOffice {
             advance();
             readTerms();
             law.addCode(-sign);
-        }
-
-        private void readTerms() {
-            readFactors();
-            for (int i = 0; i < tokens.size() && (sort == Token.PLUS || sort == Token.MINUS); i++) {
-                int sign = sort;
-                advance();
-                readFactors();
-                law.addCode(-sign);
+            if (nots % 2 == 1) {
+                law.addCode(-Token.NOT);
             }
+            open -= nots;
         }
 
-        private void readFactors() {
+        /** A + or - is put off until the * and / behind it are done. */
+        private void readTerms() {
+            int waiting = Token.END;
             readUnit();
-            for (int i = 0; i < tokens.size() && (sort == Token.TIMES || sort == Token.BY); i++) {
+            for (int i = 0; i < tokens.size() && sort >= Token.PLUS && sort <= Token.BY; i++) {
                 int sign = sort;
-                advance();
-                if (sign == Token.TIMES) {
-                    readUnit();
-                } else {
-                    law.addCode(takeNumber(1, 99999));
+                boolean adds = sign == Token.PLUS || sign == Token.MINUS;
+                if (adds && waiting != Token.END) {
+                    law.addCode(-waiting);
                 }
-                law.addCode(-sign);
+                waiting = adds ? sign : waiting;
+                advance();
+                if (sign == Token.BY) {
+                    law.addCode(takeNumber(1, 99999));
+                } else {
+                    readUnit();
+                }
+                if (!adds) {
+                    law.addCode(-sign);
+                }
+            }
+            if (waiting != Token.END) {
+                law.addCode(-waiting);
             }
         }
 
@@ -1355,7 +1353,11 @@ public final class SleepOffice {
                 advance();
                 readTerms();
                 open--;
-                take(Token.CLOSE);
+                if (sort == Token.CLOSE) {
+                    advance();
+                } else {
+                    refuse(CANNOT_STAND);
+                }
             }
         }
 
@@ -1369,8 +1371,9 @@ public final class SleepOffice {
             return true;
         }
 
-        private void take(int wanted) {
-            if (sort == wanted) {
+        private void closeLine() {
+            if (sort == Token.LINE_END) {
+                law.lines++;
                 advance();
             } else {
                 refuse(CANNOT_STAND);
@@ -1611,7 +1614,8 @@ public final class SleepOffice {
             int others = set ^ first;
             int greatest = BARRED;
             int count = 0;
-            for (int with = others; with >= 0; with = with == 0 ? -1 : with - 1 & others) {
+            int with = others;
+            for (int i = 0; i < SETS && with >= 0; i++) {
                 int group = (first | with) & SETS - 1;
                 int rest = set & ~group & SETS - 1;
                 if (worth[group] != BARRED) {
@@ -1622,6 +1626,7 @@ public final class SleepOffice {
                     }
                     count += total == greatest ? ways[rest] : 0;
                 }
+                with = with == 0 ? -1 : with - 1 & others;
             }
             best[set] = greatest;
             ways[set] = count;
