@@ -23,6 +23,7 @@ public final class EdgesTest {
         sharesOnTheEdges();
         proofWraps();
         proofNames();
+        proofDeep();
         paidUpToAll();
         waitsByOne();
         feesOnTheEdges();
@@ -461,6 +462,17 @@ public final class EdgesTest {
         x.dies(1, 2360);
         x.dies(2, 2360);
         asks(x, "proof 5+heirs;", 5);
+    }
+
+    /** Eight brackets, each with two numbers that wait for it, behind all else in a line that can wait. */
+    private static void proofDeep() {
+        SleepOffice x = held(1000);
+        x.claim(0, 0, 7, 0);
+        String deep = "2+3*(".repeat(8) + "2+3*4" + ")".repeat(8);
+        asks(x, "proof " + deep + ";", 98414);
+        asks(x, "proof 6 when 1=2 or 1=1 and 98414=" + deep + ";", 6);
+        asks(x, "proof 6 when 1=2 or 1=1 and 98415=" + deep + ";", 0);
+        asks(x, "proof " + deep + " when " + deep + "=" + deep + " and not not not not not not not not 1=1;", 98414);
     }
 
     private static void paidUpToAll() {
